@@ -807,7 +807,7 @@ public final class SendForMore {
 
     /** What THE SHOP is told to be, and what one DAY does in it. */
     private static final class Shop {
-        private static final int HANDS = PIECES - LOWEST + 1;
+        static final int HANDS = PIECES - LOWEST + 1;
 
         int most = PIECES;
         int lead;
@@ -1068,8 +1068,7 @@ public final class SendForMore {
      * Here what is thrown away is forgotten at once: no later choice depends on it.
      */
     private static final class Planner {
-        private static final int HANDS = PIECES - LOWEST + 1;
-        private static final int PLACES = HANDS * (PIECES + 1);
+        private static final int PLACES = Shop.HANDS * (PIECES + 1);
 
         private final Shop shop;
         private long[] now = new long[PLACES];
@@ -1153,7 +1152,7 @@ public final class SendForMore {
         }
 
         private static int placeOf(int x, int coming) {
-            return coming * HANDS + x - LOWEST;
+            return coming * Shop.HANDS + x - LOWEST;
         }
     }
 

@@ -190,6 +190,10 @@ public final class ShopTest {
         due.tells("S is at most MOST", x, 10, 1);
         due.finds("a refused bestPair", x, 1, () -> x.bestPair(1, 0, 2));
         due.is("no RULE is made", x.count(0), 0);
+        x.weigh(0, 3, 1);
+        x.costs(2, 0, 0, 1);
+        pairIs("to meet 3 spares just 1", x, 0, 1, 0, 3);
+        due.tells("to meet 3 spares just 1", x, 2, 1);
     }
 
     private static void pairsAlike() {
