@@ -1,26 +1,32 @@
 import com.sun.management.ThreadMXBean;
 import java.lang.management.ManagementFactory;
 
-/** All calls of one run live in one room: after the constructor next to nothing may be made. */
+/**
+ * All calls of one run live in one room of 7.3 million elements. An element takes a byte at least,
+ * so what takes fewer bytes than that has room there.
+ */
 public final class RoomTest {
     private static final Due due = new Due("RoomTest");
+    private static final long ROOM = 7_300_000;
+    private static final int OBJECTS = 64;
 
     public static void main(String[] args) {
         ThreadMXBean threads = (ThreadMXBean) ManagementFactory.getThreadMXBean();
         long id = Thread.currentThread().getId();
-        dearCalls(new SendForMore(), 20);
         long before = threads.getThreadAllocatedBytes(id);
-        SendForMore x = new SendForMore();
+        dearCalls(new Counted());
         long made = threads.getThreadAllocatedBytes(id) - before;
-        due.isTrue("a new object takes " + made + " bytes, at most 40000", made <= 40000);
+        due.isTrue("an object and its 512 calls take " + made + " bytes", made <= ROOM);
         before = threads.getThreadAllocatedBytes(id);
-        dearCalls(x, 500);
-        long later = threads.getThreadAllocatedBytes(id) - before;
-        due.isTrue("500 dear calls take " + later + " bytes, at most 10000", later <= 10000);
+        for (int i = 0; i < OBJECTS; i++) {
+            new Counted().digest();
+        }
+        made = threads.getThreadAllocatedBytes(id) - before;
+        due.isTrue(OBJECTS + " objects take " + made + " bytes", made <= ROOM);
         due.end();
     }
 
-    private static void dearCalls(SendForMore x, int n) {
+    private static void dearCalls(Counted x) {
         x.sheet(0, 25);
         x.book(0);
         x.weigh(0, 1, 9);
@@ -29,7 +35,7 @@ public final class RoomTest {
         for (int i = 0; i < 12; i++) {
             x.table(0);
         }
-        for (int i = 0; i < n; i++) {
+        for (int i = 0; x.callsLeft() >= 8; i++) {
             x.book(1);
             x.sheet(1, 25);
             x.cost(0, 0, 3, 6);
@@ -37,9 +43,7 @@ public final class RoomTest {
             x.best(0, 3, 6);
             x.spoilt(0, 12, 3, 6, i % 2 == 0);
             x.digest();
-            if (i % 10 == 0) {
-                x.bestPair(0, 3, 6);
-            }
+            x.bestPair(0, 3, 6);
         }
     }
 }
