@@ -174,6 +174,10 @@ final class BooksSentences {
             x.book(b);
             due.is("and so after close()", x.digest(), never.digest());
         }
+        Counted x = risingAndAnother();
+        x.book(2);
+        x.book(0);
+        weightsAre(due, "another one's stay", x, 1, 9, 0, 9, 0, 9, 0, 9);
     }
 
     private static void whetherItWasThere(Due due) {

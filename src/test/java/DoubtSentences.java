@@ -184,10 +184,11 @@ final class DoubtSentences {
         due.finds("q", Made::everything, NOUGHT, x -> x.doubt(0, 2, 1, 1));
         Counted x = twoBooks();
         x.book(1);
-        due.is("though none was SEEN", x.doubt(0, 1, 1, 1), SendForMore.FINDING);
+        due.is("q, though none was SEEN", x.doubt(0, 1, 1, 1), SendForMore.FINDING);
+        due.is("p, though none was SEEN", x.doubt(1, 0, 1, 1), SendForMore.FINDING);
         x.book(2);
         due.is("both", x.doubt(1, 2, 1, 1), SendForMore.FINDING);
-        due.is("findings(NOUGHT)", x.findings(NOUGHT), 2);
+        due.is("findings(NOUGHT)", x.findings(NOUGHT), 3);
     }
 
     private static Counted seenByNeither() {

@@ -67,14 +67,28 @@ final class Made {
         x.sheet(2, 25);
         x.lay(2, 24, 77);
         x.shop(7, 1, true);
+        findAPair(x);
+        seeTwo(x);
+        x.sheet(MISSING_SHEET, -1);
+        tellAFraction(x);
+        return x;
+    }
+
+    /** What everything() told last. */
+    static void tellAFraction(Counted x) {
+        x.doubt(0, 1, 4, 3);
+    }
+
+    /** THE BEST PAIR of everything(), and then its costs. */
+    static void findAPair(Counted x) {
         x.costs(0, 0, 1, 9);
         x.bestPair(1, -2, 2);
         x.costs(4, 3, 2, 1);
+    }
+
+    static void seeTwo(Counted x) {
         x.see(0);
         x.see(6);
-        x.doubt(0, 1, 4, 3);
-        x.sheet(MISSING_SHEET, -1);
-        return x;
     }
 
     /** Like everything(), with all RULES given that can be, and all SEEN. */

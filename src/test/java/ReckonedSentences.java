@@ -19,6 +19,7 @@ final class ReckonedSentences {
         s.terms("; 2 the chance that x is above 0 in the evening, the mean of days.", ReckonedSentences::serviceOfEvenings);
         s.terms("THE BEST: the least MEAN COST there can be", ReckonedSentences::theLeast);
         s.terms(", if on each day any ORDER (0 .. 12) may be given", ReckonedSentences::anyOrder);
+        s.terms("THE BEST: the least MEAN COST there can be", ReckonedSentences::bestsAtTheFloor);
         s.terms(", by all that is known then.", ReckonedSentences::byAllThatIsKnown);
         s.terms("THE BEST PAIR: of all PAIRS with S at most MOST", ReckonedSentences::topAtMostMost);
         s.terms("that with the least MEAN COST (from x)", ReckonedSentences::leastPairFromThere);
@@ -45,6 +46,7 @@ final class ReckonedSentences {
             ReckonedSentences::theLeast);
         s.promise(20, "(the least of alike ones).", ReckonedSentences::leastOfAlikeOrders);
         s.promise(20, "the ORDER that it gives on the first day", ReckonedSentences::tooLateToOrder);
+        s.promise(20, "THE BEST, told by upper(), lower()", ReckonedSentences::nothingStaysOfABest);
         s.promise(20, "BAD", due -> startBad(due, Counted::best));
         s.promise(20, "NOTHING", due -> due.finds("best", Made::everything, NOTHING, x -> x.best(3, 0, 1)));
         s.promise(20, "NOUGHT.", due -> due.finds("best", Made::everything, NOUGHT, x -> x.best(2, 0, 1)));
@@ -204,7 +206,7 @@ final class ReckonedSentences {
         Counted x = oneOrThree();
         serviceIs(due, "nothing LACKS", x, 0, 2, 1, 1, 4);
         serviceIs(due, "7 of 10 are MET", x, 1, 2, 1, 7, 10);
-        serviceIs(due, "3 in hand: 1 and then 2 are taken", x, 2, 3, 1, 1, 4);
+        serviceIs(due, "3 in hand: some are left once of four", x, 2, 3, 1, 1, 4);
     }
 
     private static void serviceOfAllDays(Due due) {
@@ -231,9 +233,10 @@ final class ReckonedSentences {
 
     private static void nobodyAsks(Due due) {
         Counted x = Made.always(0);
+        Made.weigh(x, 1, 1, 1);
         x.rule(1, 5, 0);
-        x.cost(0, 0, 0, 1);
-        due.tells("something else", x, 20, 1);
+        x.doubt(0, 1, 2, 3);
+        due.tells("something else", x, 2, 5);
         for (int days = 1; days <= 6; days++) {
             serviceIs(due, "nobody asks", x, 1, 5, days, 0, 1);
         }
@@ -272,6 +275,21 @@ final class ReckonedSentences {
         due.is("best needs no RULE", x.count(0), 0);
     }
 
+    /** What a call has reckoned is nothing that the next one finds. */
+    private static void nothingStaysOfABest(Due due) {
+        Counted x = Made.always(6);
+        x.costs(0, 0, 1, 1);
+        for (int lead = 0; lead <= 2; lead++) {
+            x.shop(12, lead, true);
+            for (int round = 0; round < 2; round++) {
+                bestIs(due, "nothing can be met, LEAD " + lead, x, -12, 1, 0, 6);
+                bestIs(due, "nothing is left", x, 6, 1, 0, 0);
+                bestIs(due, "all is left", x, 12, 1, 0, 6);
+                due.isTrue("six days", x.best(0, -12, 6) >= 0);
+            }
+        }
+    }
+
     private static void anyOrder(Due due) {
         Counted x = Made.always(6);
         x.costs(0, 0, 0, 1);
@@ -281,12 +299,28 @@ final class ReckonedSentences {
         bestIs(due, "12 today, 12 tomorrow", x, -12, 2, 12, 6);
         bestIs(due, "12 just do", x, -6, 1, 12, 0);
         bestIs(due, "11 just do", x, -5, 1, 11, 0);
+        x.shop(6, 0, true);
+        bestIs(due, "MOST is no bound of an ORDER", x, -6, 1, 12, 0);
         x.shop(2, 0, false);
         bestIs(due, "MOST keeps it low", x, 0, 1, 2, 4);
         x.shop(2, 1, false);
         bestIs(due, "MOST keeps it low, a day later", x, 0, 2, 2, 10);
         x.shop(2, 2, false);
         bestIs(due, "MOST keeps it low, two days later", x, 0, 3, 2, 16);
+    }
+
+    /** Where -12 is the least, 12 that come on the second day and 12 on the third just do. */
+    private static void bestsAtTheFloor(Due due) {
+        Counted x = Made.always(6);
+        x.costs(0, 0, 0, 1);
+        x.shop(12, 1, true);
+        bestIs(due, "6 lack on two days", x, -12, 3, 12, 12);
+        pairIs(due, "6 lack on two days", x, -12, 3, 0, 12);
+        due.tells("6 lack on two days", x, 12, 1);
+        x.shop(12, 1, false);
+        bestIs(due, "LOST: 6 lack on one", x, 0, 3, 6, 6);
+        pairIs(due, "LOST: 6 lack on one", x, 0, 3, 0, 12);
+        due.tells("LOST: 6 lack on one", x, 6, 1);
     }
 
     private static void byAllThatIsKnown(Due due) {
@@ -340,6 +374,12 @@ final class ReckonedSentences {
         pairIs(due, "S 12 lasts for two days", six, 0, 2, 0, 12);
         six.shop(11, 0, false);
         pairIs(due, "S 11 does not", six, 0, 2, 0, 6);
+        x.shop(3, 1, false);
+        pairIs(due, "S 6 would send for 3 while 3 are in hand", x, 3, 2, -12, 0);
+        due.tells("S 6 is above MOST", x, 3, 1);
+        x.shop(6, 1, false);
+        pairIs(due, "S 6 sends for 3 while 3 are in hand", x, 3, 2, 3, 6);
+        due.tells("S 6 is not above MOST", x, 0, 1);
     }
 
     private static void leastPairFromThere(Due due) {
@@ -354,9 +394,15 @@ final class ReckonedSentences {
         x.shop(4, 0, false);
         pairIs(due, "MOST 4: 3 on each day", x, 0, 2, 0, 3);
         due.tells("MOST 4", x, 10, 1);
+        x.weigh(0, 3, 1);
         x.costs(2, 0, 0, 1);
         pairIs(due, "to meet 3 spares just 1", x, 0, 1, 0, 3);
         due.tells("to meet 3 spares just 1", x, 2, 1);
+        Counted six = Made.always(6);
+        six.costs(0, 0, 0, 1);
+        six.shop(12, 0, true);
+        pairIs(due, "12 on each of two days", six, -12, 2, -6, 6);
+        due.tells("12 on each of two days", six, 6, 1);
     }
 
     private static void pairOfLeastTop(Due due) {

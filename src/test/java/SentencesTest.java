@@ -14,6 +14,7 @@ public final class SentencesTest {
         SpoilingSentences.all(s);
         DoubtSentences.all(s);
         ToldSentences.all(s);
+        ApartSentences.all(s);
         s.end();
     }
 }

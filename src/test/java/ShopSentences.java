@@ -20,6 +20,7 @@ final class ShopSentences {
 
         s.terms("A DAY begins with x in hand (below 0: so many are OWED)", ShopSentences::inHand);
         s.terms(", and what is under way. POSITION: x and all that is under way.", ShopSentences::position);
+        s.terms("POSITION: x and all that is under way.", ShopSentences::highestPosition);
         s.terms("1. A RULE ORDERS.", ShopSentences::ordersBeforeItComes);
         s.terms("2. What was ORDERED LEAD days ago (0: just now) comes", ShopSentences::comesLeadDaysLater);
         s.terms(": x is that more, but never above MOST", ShopSentences::neverAboveMost);
@@ -217,6 +218,24 @@ final class ShopSentences {
         costIs(due, "on the third day both are", twice, 0, 3, 6);
         costIs(due, "on the second day one is", twice, 0, 2, 6);
         costIs(due, "x counts beside them", twice, 3, DAYS, 3);
+    }
+
+    private static void highestPosition(Due due) {
+        Counted x = eachDay(0, 12);
+        x.costs(0, 1, 0, 0);
+        x.shop(12, 1, false);
+        costIs(due, "12 in hand and 12 under way are above 12, LEAD 1", x, 12, 2, 12);
+        costIs(due, "and 12 again are not", x, 12, 3, 24);
+        x.shop(12, 2, false);
+        costIs(due, "24 on the second day, LEAD 2", x, 12, 2, 12);
+        costIs(due, "24 on the third day", x, 12, 3, 12);
+        costIs(due, "12 again on the fourth day", x, 12, 4, 24);
+        x.shop(4, 2, false);
+        costIs(due, "12 under way are not above 12, 24 are", x, 0, 3, 24);
+        costIs(due, "12 under way and 1 in hand are", x, 1, 3, 12);
+        x.costs(0, 0, 1, 0);
+        costIs(due, "4 of them are left in the end", x, 0, 4, 8);
+        costIs(due, "beside 1", x, 1, 4, 1 + 1 + 4 + 4);
     }
 
     private static void ordersBeforeItComes(Due due) {

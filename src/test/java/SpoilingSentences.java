@@ -96,6 +96,8 @@ final class SpoilingSentences {
         spoiltIs(due, x, 2, 3, 6, true, 0);
         spoiltIs(due, x, 3, 3, 2, true, 0);
         spoiltIs(due, x, 3, 3, 3, true, 1);
+        // After 2, 1 there is one piece of each day: 2 more take the new one and that in its day 2.
+        spoiltIs(due, Made.weighed(0, 1, 1), 3, 3, 3, true, 3 + 2 + 2 + 2, 8);
     }
 
     private static void spoilsInTheEvening(Due due) {

@@ -32,25 +32,12 @@ final class TermsSentences {
     }
 
     private static void findingTells(Due due) {
-        Counted x = Made.everything();
-        int[] want = {NOTHING, BEYOND, UNLIKE, NOUGHT, SIZE};
-        int[] answers = new int[want.length];
-        int[] told = new int[want.length];
-        answers[0] = x.close(3);
-        told[0] = x.finding();
-        answers[1] = x.lay(1, 0, 1);
-        told[1] = x.finding();
-        answers[2] = x.mark(0, 1);
-        told[2] = x.finding();
-        answers[3] = x.mean(2);
-        told[3] = x.finding();
-        answers[4] = x.sheet(2, -5);
-        told[4] = x.finding();
-        for (int i = 0; i < want.length; i++) {
-            due.is("FINDING", answers[i], FINDING);
-            due.is("finding()", told[i], want[i]);
-        }
-        due.is("FINDING is -3", FINDING, -3);
+        due.is("FINDING", FINDING, -3);
+        due.finds("NOTHING", Made::everything, NOTHING, x -> x.close(3));
+        due.finds("BEYOND", Made::everything, BEYOND, x -> x.lay(1, 0, 1));
+        due.finds("UNLIKE", Made::everything, UNLIKE, x -> x.mark(0, 1));
+        due.finds("NOUGHT", Made::everything, NOUGHT, x -> x.mean(2));
+        due.finds("SIZE", Made::everything, SIZE, x -> x.sheet(2, -5));
     }
 
     private static void numbersThatAreNone(Due due) {
