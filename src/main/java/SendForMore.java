@@ -261,7 +261,7 @@ public final class SendForMore {
         if (!isRule(rule) || !isStart(book, x, days)) {
             return BAD;
         }
-        int lacking = lackOf(rules[rule], books[book]);
+        int lacking = lackOfEither(rules[rule], books[book]);
         if (lacking != 0) {
             return refuse(lacking);
         }
@@ -275,7 +275,7 @@ public final class SendForMore {
         if (!isWithin(kind, 0, 2) || !isRule(rule) || !isStart(book, x, days)) {
             return BAD;
         }
-        int lacking = lackOf(rules[rule], books[book]);
+        int lacking = lackOfEither(rules[rule], books[book]);
         if (lacking != 0) {
             return refuse(lacking);
         }
@@ -504,7 +504,7 @@ public final class SendForMore {
         return book.weightOfAll() == 0 ? NOUGHT : 0;
     }
 
-    private static int lackOf(Rule rule, Book book) {
+    private static int lackOfEither(Rule rule, Book book) {
         return rule == null ? NOTHING : lackOf(book);
     }
 
