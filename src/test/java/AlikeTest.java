@@ -13,10 +13,10 @@ public final class AlikeTest {
         "rule", "drop", "told", "mark", "order", "shop", "costs", "cost", "service", "best", "bestPair", "pairTold",
         "spoilt", "see", "forget", "doubt", "count", "findings"};
     /** Of each call: how often it comes, then the least and the most of each number it takes. */
-    private static final int[][] RANGES = {{4, 0, 3}, {24, 0, 3, 0, 6, 0, 9}, {1, 0, 3}, {4, 0, 3, 0, 6, 0, 3, 0, 6, 0, 4},
+    private static final int[][] RANGES = {{4, 0, 3}, {24, 0, 3, 0, 6, 0, 9}, {1, 0, 3}, {4, 0, 3, 0, 7, 0, 3, 0, 7, 0, 4},
         {3, 0, 3}, {3, 0, 3, -1, 26}, {9, 0, 3, 0, 20, -40, 60}, {1, 0, 3}, {2, 0, 3}, {6, 0, 3, -12, 12, 0, 12},
         {1, 0, 11}, {3, 0, 11, 0, 4}, {6, 0, 11, 0, 3}, {6, 0, 11, -12, 36}, {4, 1, 12, 0, 2, 0, 1},
-        {3, 0, 100, 0, 20, 0, 10, 0, 100}, {9, 0, 7, 0, 3, 0, 7, 1, 3}, {9, 0, 2, 0, 7, 0, 3, 0, 7, 1, 3},
+        {3, 0, 100, 0, 100, 0, 100, 0, 100}, {9, 0, 7, 0, 3, 0, 7, 1, 3}, {9, 0, 2, 0, 7, 0, 3, 0, 7, 1, 3},
         {3, 0, 3, 0, 7, 1, 2}, {1, 0, 3, 0, 7, 1, 2}, {1, 0, 1}, {6, 0, 3, 0, 12, 1, 3, 1, 3, 0, 1}, {4, 0, 6}, {1},
         {6, 0, 3, 0, 3, 1, 9, 1, 9}, {1, 0, 5}, {1, 1, 5}};
 
@@ -39,6 +39,9 @@ public final class AlikeTest {
         }
         for (int run = 0; run < 12; run++) {
             new AlikeTest(2000 + run).longestDays(run % 3, run % 2 == 0);
+        }
+        for (int run = 0; run < 50; run++) {
+            new AlikeTest(3000 + run).doubtsOfAllThatCanBe();
         }
         due.end();
     }
@@ -125,7 +128,8 @@ public final class AlikeTest {
         boolean owed = below(2) == 0;
         int most = below(2) == 0 ? 12 : within(1, 12);
         alike(14, most, below(3), owed ? 1 : 0);
-        alike(15, within(0, 40), below(6), below(4), within(0, 60));
+        int dearest = below(2) == 0 ? 5 : 100;
+        alike(15, within(0, 40), within(0, dearest), within(0, dearest), within(0, 60));
         alike(5, 0, within(10, 25));
         for (int i = 0; i < 20; i++) {
             alike(6, 0, within(0, 24), below(16) - 2);
@@ -154,7 +158,8 @@ public final class AlikeTest {
         }
         int most = within(6, 12);
         alike(14, most, lead, owed ? 1 : 0);
-        alike(15, within(0, 100), within(0, 9), within(0, 9), within(0, 100));
+        int dearest = below(2) == 0 ? 9 : 100;
+        alike(15, within(0, 100), within(0, dearest), within(0, dearest), within(0, 100));
         alike(9, 2, within(-3, 3), within(4, 12));
         int at = owed ? within(-12, most) : within(0, most);
         alike(16, 0, 2, at, 6);
@@ -165,6 +170,24 @@ public final class AlikeTest {
         alike(19, 2, at, 3);
         alike(21, 2, within(6, 12), 3, 6, 0);
         alike(21, 2, within(6, 12), 3, 6, 1);
+    }
+
+    /** Every DEMAND has a weight, so that no DOUBT is NOUGHT whatever was SEEN. */
+    private void doubtsOfAllThatCanBe() {
+        for (int book = 0; book < 4; book++) {
+            alike(0, book);
+            for (int d = 0; d < 7; d++) {
+                alike(1, book, d, within(1, 9));
+            }
+        }
+        for (int round = 0; round < 2; round++) {
+            for (int count = 0; count <= 6; count++) {
+                int p = below(4);
+                alike(24, p, (p + within(1, 3)) % 4, within(1, 9), within(1, 9));
+                alike(22, below(7));
+            }
+            alike(23);
+        }
     }
 
     private long onClass(int kind, int[] a) {

@@ -1,4 +1,5 @@
 import java.util.function.Consumer;
+import java.util.function.Supplier;
 
 /**
  * What a call that is not refused changes is what its promise says, and nothing beside: each is
@@ -36,8 +37,10 @@ final class ApartSentences {
         s.promise(21, "THE BEST PAIR", ApartSentences::anotherPair);
         s.promise(22, "Of THE BEST PAIR", due -> changesNothing(due, x -> x.pairTold(0)));
         s.promise(23, "SPOILT", due -> undone(due, x -> x.spoilt(0, 12, 3, 4, true), Made::tellAFraction));
-        s.promise(24, "A DEMAND was SEEN", due -> undone(due, x -> x.see(3), ApartSentences::seeAnew));
-        s.promise(25, "None was SEEN", due -> undone(due, Counted::forget, Made::seeTwo));
+        s.promise(24, "A DEMAND was SEEN", due ->
+            undoneOn(due, Made::everything, x -> x.see(3), ApartSentences::seeAnew));
+        s.promise(25, "None was SEEN", due -> undoneOn(due, Made::everything, Counted::forget, Made::seeTwo));
+        s.promise(25, "None was SEEN", due -> undoneOn(due, Made::fullOfAll, Counted::forget, Made::seeSix));
         s.promise(26, "DOUBT", due -> undone(due, x -> x.doubt(1, 0, 9, 1), Made::tellAFraction));
         s.promise(27, "The upper number", due -> changesNothing(due, Counted::upper));
         s.promise(28, "Its lower number", due -> changesNothing(due, Counted::lower));
@@ -52,10 +55,15 @@ final class ApartSentences {
     }
 
     private static void undone(Due due, Consumer<Counted> call, Consumer<Counted> undo) {
-        Counted x = Made.everything();
+        undoneOn(due, Made::everything, call, undo);
+        undoneOn(due, Made::fullOfAll, call, undo);
+    }
+
+    private static void undoneOn(Due due, Supplier<Counted> made, Consumer<Counted> call, Consumer<Counted> undo) {
+        Counted x = made.get();
         call.accept(x);
         undo.accept(x);
-        Counted twin = Made.everything();
+        Counted twin = made.get();
         due.is("finding()", x.finding(), twin.finding());
         for (int f = 1; f <= 5; f++) {
             due.is("findings(" + f + ")", x.findings(f), twin.findings(f));

@@ -74,7 +74,7 @@ final class Made {
         return x;
     }
 
-    /** What everything() told last. */
+    /** What everything() and fullOfAll() told last. */
     static void tellAFraction(Counted x) {
         x.doubt(0, 1, 4, 3);
     }
@@ -91,15 +91,22 @@ final class Made {
         x.see(6);
     }
 
+    static void seeSix(Counted x) {
+        seeTwo(x);
+        for (int i = 2; i < 6; i++) {
+            x.see(i % 2 * 6);
+        }
+    }
+
     /** Like everything(), with all RULES given that can be, and all SEEN. */
     static Counted fullOfAll() {
         Counted x = everything();
         for (int i = 5; i < 12; i++) {
             x.rule(1, i, 0);
         }
-        for (int i = 2; i < 6; i++) {
-            x.see(i % 2);
-        }
+        x.forget();
+        seeSix(x);
+        tellAFraction(x);
         return x;
     }
 }

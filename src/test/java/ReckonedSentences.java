@@ -20,6 +20,7 @@ final class ReckonedSentences {
         s.terms("THE BEST: the least MEAN COST there can be", ReckonedSentences::theLeast);
         s.terms(", if on each day any ORDER (0 .. 12) may be given", ReckonedSentences::anyOrder);
         s.terms("THE BEST: the least MEAN COST there can be", ReckonedSentences::bestsAtTheFloor);
+        s.terms("THE BEST: the least MEAN COST there can be", ReckonedSentences::bestsAtTheCeiling);
         s.terms(", by all that is known then.", ReckonedSentences::byAllThatIsKnown);
         s.terms("THE BEST PAIR: of all PAIRS with S at most MOST", ReckonedSentences::topAtMostMost);
         s.terms("that with the least MEAN COST (from x)", ReckonedSentences::leastPairFromThere);
@@ -321,6 +322,18 @@ final class ReckonedSentences {
         bestIs(due, "LOST: 6 lack on one", x, 0, 3, 6, 6);
         pairIs(due, "LOST: 6 lack on one", x, 0, 3, 0, 12);
         due.tells("LOST: 6 lack on one", x, 6, 1);
+    }
+
+    /** 3 are in hand, nobody or 3 are asked for: 3 more are sent for, and thrown away if nobody asked. */
+    private static void bestsAtTheCeiling(Due due) {
+        Counted x = Made.weighed(1, 0, 0, 1);
+        x.costs(0, 1, 1, 10);
+        x.shop(3, 1, false);
+        bestIs(due, "3, and 3 by 2 are left on either day", x, 3, 2, 3, 6);
+        x.shop(3, 2, false);
+        due.is("LEAD 2", x.best(0, 3, 3), 3);
+        // 3 pieces; 3 by 2 left; then 3 by 2 left, or 30 by 2 for what lacks; and 3 by 2 left again.
+        due.tells("LEAD 2", x, 57, 4);
     }
 
     private static void byAllThatIsKnown(Due due) {

@@ -16,6 +16,7 @@ final class RulesSentences {
         s.terms("2 PAIR (a BASE: up to S, 0 .. 12, but only at s or below, s -12 .. S - 1)", RulesSentences::pairs);
         s.terms("3 LOT (a RULE: q, 1 .. 12, at r or below, r -12 .. 12)", RulesSentences::lots);
         s.terms("; one of KIND 0 has a table: a SHEET's bytes as they were.", RulesSentences::asTheyWere);
+        s.terms("a SHEET's bytes as they were.", RulesSentences::asTheyWereOfAnySize);
         s.terms("A RULE ORDERS by the POSITION P: BASE: S less P", RulesSentences::ordersOfBases);
         s.terms("PAIR: S less P, if P is not above s", RulesSentences::ordersOfPairs);
         s.terms("LOT: q, if P is not above r", RulesSentences::ordersOfLots);
@@ -146,6 +147,25 @@ final class RulesSentences {
         due.is("the SHEET is missing", x.order(1, -12), 9);
         x.drop(1);
         due.is("the other one is missing", x.order(0, -12), 3);
+    }
+
+    private static void asTheyWereOfAnySize(Due due) {
+        for (int n = 1; n <= 25; n++) {
+            Counted x = Made.empty();
+            x.sheet(3, n);
+            for (int i = 0; i < n; i++) {
+                x.lay(3, i, 1 + i % 11);
+            }
+            x.table(3);
+            int size = n;
+            for (int i = 0; i < n; i++) {
+                x.lay(3, i, 12);
+            }
+            ordersAre(due, x, 0, p -> p + 12 < size ? 1 + (p + 12) % 11 : 0);
+            x.sheet(3, n);
+            x.tear(3);
+            ordersAre(due, x, 0, p -> p + 12 < size ? 1 + (p + 12) % 11 : 0);
+        }
     }
 
     private static void ordersAre(Due due, Counted x, int rule, Ordered ordered) {
@@ -426,6 +446,14 @@ final class RulesSentences {
         Counted x = Made.fullOfAll();
         for (int rule = 0; rule < 12; rule++) {
             due.is("mark(" + rule + ", 0)", x.mark(rule, 0), rule == Made.DROPPED_RULE ? FINDING : rule);
+        }
+        for (int kind = 0; kind <= 3; kind++) {
+            Counted alike = Made.empty();
+            alike.sheet(0, 3);
+            for (int rule = 0; rule < 12; rule++) {
+                due.is("the next one", kind == 0 ? alike.table(0) : alike.rule(kind, 4, 5), rule);
+                due.is("KIND " + kind + ", mark(" + rule + ", 0)", alike.mark(rule, 0), rule);
+            }
         }
     }
 

@@ -12,6 +12,7 @@ final class SheetsSentences {
 
         s.promise(7, "A SHEET is there with n bytes 0: n.", SheetsSentences::bytesAreNought);
         s.promise(7, "with n bytes", SheetsSentences::sizes);
+        s.promise(7, "A SHEET is there with n bytes 0", SheetsSentences::anySizeAnew);
         s.promise(7, "BAD: n above 25", SheetsSentences::sheetBad);
         s.promise(7, "SIZE.", SheetsSentences::sheetSize);
 
@@ -77,6 +78,22 @@ final class SheetsSentences {
         x.tear(3);
         x.sheet(3, 25);
         due.is("0 after tear()", x.lay(3, 24, 0), 1000);
+    }
+
+    private static void anySizeAnew(Due due) {
+        for (int before = 0; before <= 25; before++) {
+            for (int n = 0; n <= 25; n++) {
+                Counted x = Made.empty();
+                x.sheet(1, before);
+                for (int i = 0; i < before; i++) {
+                    x.lay(1, i, 100);
+                }
+                due.is("sheet(1, " + n + ") where " + before + " were", x.sheet(1, n), n);
+                Counted never = Made.empty();
+                never.sheet(1, n);
+                due.is("like one that had no others", x.digest(), never.digest());
+            }
+        }
     }
 
     private static void sheetBad(Due due) {
