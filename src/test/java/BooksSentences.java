@@ -35,6 +35,7 @@ final class BooksSentences {
 
         s.promise(5, "n weights of a BOOK, from one on, come to those of another one", BooksSentences::copying);
         s.promise(5, "n weights", BooksSentences::copyOfNoneAndOfAll);
+        s.promise(5, "of a BOOK, from one on, come to those of another one", BooksSentences::copyOfAnyToAny);
         s.promise(5, "(perhaps itself) from one on, as if taken ahead: 1.", BooksSentences::copyOntoItself);
         s.promise(5, "BAD", BooksSentences::copyBad);
         s.promise(5, "NOTHING: either", BooksSentences::copyNothing);
@@ -205,6 +206,15 @@ final class BooksSentences {
                 was = w;
             }
         }
+        for (int b = 0; b < 4; b++) {
+            Counted all = Made.empty();
+            all.book(b);
+            for (int d = 0; d < 7; d++) {
+                for (int w = 9; w >= 0; w--) {
+                    due.is("weigh(" + b + ", " + d + ", " + w + ")", all.weigh(b, d, w), w == 9 ? 0 : w + 1);
+                }
+            }
+        }
     }
 
     private static void weighBad(Due due) {
@@ -297,6 +307,19 @@ final class BooksSentences {
         weightsAre(due, "all are there", x, 1, RISING);
     }
 
+    private static void copyOfAnyToAny(Due due) {
+        for (int b = 0; b < 4; b++) {
+            for (int to = 0; to < 4; to++) {
+                Counted x = Made.empty();
+                Made.weigh(x, to, 9, 9, 9, 9, 9, 9, 9);
+                Made.weigh(x, b, RISING);
+                due.is("copy(" + b + ", 0, " + to + ", 0, 7)", x.copy(b, 0, to, 0, 7), 1);
+                weightsAre(due, "from BOOK " + b, x, b, RISING);
+                weightsAre(due, "to BOOK " + to, x, to, RISING);
+            }
+        }
+    }
+
     private static void copyOntoItself(Due due) {
         for (int from = 0; from < 7; from++) {
             for (int to = 0; to < 7; to++) {
@@ -323,6 +346,7 @@ final class BooksSentences {
         due.finds("to a missing one", Made::everything, NOTHING, x -> x.copy(0, 0, 3, 0, 1));
         due.finds("a missing one onto itself", Made::everything, NOTHING, x -> x.copy(3, 0, 3, 0, 1));
         due.finds("none of a missing one", Made::everything, NOTHING, x -> x.copy(3, 0, 0, 0, 0));
+        due.finds("none to a missing one", Made::everything, NOTHING, x -> x.copy(0, 0, 3, 0, 0));
         due.finds("ahead of BEYOND, from", Made::everything, NOTHING, x -> x.copy(3, 0, 0, 0, 8));
         due.finds("ahead of BEYOND, to", Made::everything, NOTHING, x -> x.copy(0, -1, 3, 0, 1));
     }

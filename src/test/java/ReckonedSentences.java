@@ -8,6 +8,8 @@ final class ReckonedSentences {
 
     static void all(Sentences s) {
         s.terms("MEAN COST of a RULE by a BOOK", ReckonedSentences::byRuleAndBook);
+        s.terms("of a RULE by a BOOK", ReckonedSentences::byEachRule);
+        s.terms("of a RULE by a BOOK", ReckonedSentences::byEachBook);
         s.terms(", over T days (1 .. 6)", ReckonedSentences::days);
         s.terms("from x (0 .. MOST", ReckonedSentences::fromWhenLost);
         s.terms("; if OWED: -12 .. MOST)", ReckonedSentences::fromWhenOwed);
@@ -111,6 +113,44 @@ final class ReckonedSentences {
         due.tells("by BOOK 0: 2 and 9 and 24 by 10", x, 7, 2);
         due.is("by BOOK 1", x.cost(2, 1, 0, 1), 1);
         due.tells("by BOOK 1: 1 and 2 and 25 and 6 by 10", x, 17, 5);
+    }
+
+    private static void byEachRule(Due due) {
+        Counted x = Made.always(6);
+        for (int rule = 0; rule < 12; rule++) {
+            x.rule(1, 11 - rule, 0);
+        }
+        x.costs(0, 1, 0, 0);
+        for (int rule = 0; rule < 12; rule++) {
+            int top = 11 - rule;
+            due.is("cost of RULE " + rule, x.cost(rule, 0, 0, 1), 1);
+            due.tells("cost of RULE " + rule, x, top, 1);
+            due.is("service of RULE " + rule, x.service(1, rule, 0, 0, 1), 1);
+            due.is("MET of 6 by RULE " + rule, 6 * x.upper(), Math.min(top, 6) * x.lower());
+        }
+    }
+
+    private static void byEachBook(Due due) {
+        for (int book = 0; book < 4; book++) {
+            Counted x = Made.empty();
+            for (int b = 0; b < 4; b++) {
+                x.book(b);
+                x.weigh(b, b == book ? 2 : 6, 9);
+            }
+            x.rule(2, -12, 0);
+            x.costs(1, 0, 0, 1);
+            due.is("cost", x.cost(0, book, 0, 6), 1);
+            due.tells("cost by BOOK " + book, x, 12, 1);
+            due.is("service", x.service(1, 0, book, 1, 1), 1);
+            due.tells("service by BOOK " + book, x, 1, 2);
+            due.is("best", x.best(book, 0, 6), 12);
+            due.tells("best by BOOK " + book, x, 1, 1);
+            due.is("bestPair", x.bestPair(book, 0, 5), 1);
+            due.tells("bestPair by BOOK " + book, x, 1, 1);
+            due.is("S", x.pairTold(1), 10);
+            due.is("spoilt", x.spoilt(book, 12, 1, 1, true), 1);
+            due.tells("spoilt by BOOK " + book, x, 10, 1);
+        }
     }
 
     private static void days(Due due) {
@@ -227,6 +267,9 @@ final class ReckonedSentences {
         serviceIs(due, "2, 4, 4, 5 of 2, 4, 4, 6", x, 1, 5, 2, 2 + 3 * 4 + 3 * 4 + 9 * 5, 80);
         serviceIs(due, "all", x, 1, 6, 2, 1, 1);
         serviceIs(due, "none", x, 1, 0, 6, 0, 1);
+        serviceIs(due, "4 of 20 by 2", x, 1, 4, 4, 2, 5);
+        serviceIs(due, "4 of 25 by 2", x, 1, 4, 5, 8, 25);
+        serviceIs(due, "4 of 30 by 2", x, 1, 4, 6, 4, 15);
         serviceIs(due, "not the mean of 1 and 2 by 3", x, 1, 2, 1, 7, 10);
         x.shop(12, 0, true);
         serviceIs(due, "what is OWED is not MET", x, 1, -1, 6, 0, 1);
@@ -302,6 +345,8 @@ final class ReckonedSentences {
         bestIs(due, "11 just do", x, -5, 1, 11, 0);
         x.shop(6, 0, true);
         bestIs(due, "MOST is no bound of an ORDER", x, -6, 1, 12, 0);
+        x.shop(1, 0, false);
+        bestIs(due, "MOST keeps it lowest", x, 0, 1, 1, 5);
         x.shop(2, 0, false);
         bestIs(due, "MOST keeps it low", x, 0, 1, 2, 4);
         x.shop(2, 1, false);

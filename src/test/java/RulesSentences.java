@@ -233,6 +233,13 @@ final class RulesSentences {
             int size = n;
             ordersAre(due, x, 0, p -> p + 12 < size ? 7 : 0);
         }
+        Counted x = Made.empty();
+        x.sheet(2, 25);
+        for (int i = 0; i < 25; i++) {
+            x.lay(2, i, 127);
+        }
+        x.table(2);
+        ordersAre(due, x, 0, p -> p <= 12 ? 12 : 0);
     }
 
     private static void belowNought(Due due) {

@@ -28,6 +28,7 @@ final class ToldSentences {
         s.promise(32, "; k, c, h, b", ToldSentences::digestOfCosts);
         s.promise(32, "; of each BOOK its weights (-1 once: missing)", ToldSentences::digestOfBooks);
         s.promise(32, "; of each RULE told() 0 to 4 (-1 once: missing)", ToldSentences::digestOfRules);
+        s.promise(32, "(-1 once: missing)", ToldSentences::digestOfDroppedRules);
         s.promise(32, "; of each SHEET its size (-1: missing), its bytes.", ToldSentences::digestOfSheets);
     }
 
@@ -265,6 +266,21 @@ final class ToldSentences {
         long before = fold(fold(fold(17, 5, 4, 0, 12, 0, 0), COSTS_AT_FIRST), NO_BOOKS);
         due.is("all KINDS, and a dropped one", x.digest(), fold(fold(before, 0, -9, -9, -9, 4, 1, 7, -9, -9, -9,
             2, 8, -3, -9, -9, 3, -9, 4, 2, -9, -1), NO_SHEETS));
+    }
+
+    private static void digestOfDroppedRules(Due due) {
+        Counted x = Made.empty();
+        for (int rule = 0; rule < 12; rule++) {
+            x.rule(1, rule, 0);
+        }
+        for (int dropped = 0; dropped < 12; dropped++) {
+            x.drop(dropped);
+            long want = fold(fold(fold(17, 12, 11 - dropped, 0, 12, 0, 0), COSTS_AT_FIRST), NO_BOOKS);
+            for (int rule = 0; rule < 12; rule++) {
+                want = rule <= dropped ? fold(want, -1) : fold(want, 1, rule, -9, -9, -9);
+            }
+            due.is("RULES 0 to " + dropped + " are missing", x.digest(), fold(want, NO_SHEETS));
+        }
     }
 
     private static void digestOfSheets(Due due) {
