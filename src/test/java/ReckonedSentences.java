@@ -56,6 +56,7 @@ final class ReckonedSentences {
 
         s.promise(21, "THE BEST PAIR; its MEAN COST told by upper(), lower(): 1.", ReckonedSentences::pairAndItsCost);
         s.promise(21, "THE BEST PAIR", ReckonedSentences::noRuleIsMade);
+        s.promise(21, "THE BEST PAIR; its MEAN COST", ReckonedSentences::pairBesideAllElse);
         s.promise(21, "BAD", due -> startBad(due, Counted::bestPair));
         s.promise(21, "NOTHING", due -> due.finds("bestPair", Made::everything, NOTHING, x -> x.bestPair(3, 0, 1)));
         s.promise(21, "NOUGHT.", due -> due.finds("bestPair", Made::everything, NOUGHT, x -> x.bestPair(2, 0, 1)));
@@ -510,6 +511,23 @@ final class ReckonedSentences {
         Counted full = Made.fullOfAll();
         due.is("though RULES are FULL", full.bestPair(0, 0, 2), 1);
         due.is("RULES ever", full.count(0), 12);
+    }
+
+    /** A full object that has found a PAIR before finds the same one as a new object does. */
+    private static void pairBesideAllElse(Due due) {
+        for (int lead = 0; lead <= 2; lead++) {
+            Counted x = Made.empty();
+            Counted full = Made.fullOfAll();
+            for (Counted each : new Counted[] {x, full}) {
+                Made.weigh(each, 3, 9, 9, 9, 9, 9, 9, 7);
+                each.shop(12, lead, true);
+                each.costs(30, 2, 1, 20);
+                due.is("bestPair", each.bestPair(3, -12, 6), 1);
+            }
+            due.tells("its MEAN COST", full, x.upper(), x.lower());
+            due.is("s", full.pairTold(0), x.pairTold(0));
+            due.is("S", full.pairTold(1), x.pairTold(1));
+        }
     }
 
     private static void latestPair(Due due) {
